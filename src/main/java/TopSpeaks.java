@@ -96,9 +96,7 @@ public final class TopSpeaks {
             return FULL;
         }
         Member one = chamber.seatNext();
-        one.kind = kind;
-        one.weight = weight;
-        one.lean = lean;
+        one.become(kind, weight, lean);
         one.party = party;
         one.strength = chair;
         return chamber.size() - 1;
@@ -133,7 +131,7 @@ public final class TopSpeaks {
             case 6: return one.number;
             case 7: return Row.heightOf(tower, member);
             case 8: return one.bruises;
-            case 9: return one.weighs();
+            case 9: return one.weighs;
             case 10: return one.canBear();
             case 11: return chamber.loadOn(tower, member);
             default: return OUTSIDE;
@@ -285,7 +283,7 @@ public final class TopSpeaks {
         }
         rowSearches++;
         heardBills.clear();
-        hearBills(chamber, tower, set, 0, heardBills);
+        hearBills(chamber, tower, set, chamber.billOf(tower), 0, heardBills);
         return what == 0 ? heardBills.howMany() : heardBills.greatest();
     }
 
@@ -351,17 +349,18 @@ public final class TopSpeaks {
         return NONE;
     }
 
-    /** Marks each bill that comes of a row in which all of the set rise. */
-    private static void hearBills(Chamber chamber, int tower, int set, int depth, Bills heard) {
+    /** Adds each bill that comes of a row in which all of the set rise. */
+    private static void hearBills(Chamber chamber, int tower, int set, int bill, int depth, Bills heard) {
         if (set == 0) {
-            heard.add(chamber.billOf(tower));
+            heard.add(bill);
             return;
         }
         for (int one = 0; one < SEATS && depth <= SEATS; one++) {
             if ((set >>> one & 1) == 1 && chamber.canRise(tower, one)) {
                 int risen = chamber.risen(tower, one);
                 if (risen != Row.EMPTY) {
-                    hearBills(chamber, risen, set & ~(1 << one), depth + 1, heard);
+                    int next = chamber.who(one).speak(bill);
+                    hearBills(chamber, risen, set & ~(1 << one), next, depth + 1, heard);
                 }
             }
         }
@@ -538,31 +537,33 @@ public final class TopSpeaks {
         private int sort;
         private int number;
         private int bruises;
+        // what comes of the kind alone, reckoned once, as all searches ask for it at every step
+        private boolean fat;
+        private int weighs;
+        private int joined;
+        private int leans;
+
+        void become(int newKind, int newWeight, int newLean) {
+            kind = newKind;
+            weight = newWeight;
+            lean = newLean;
+            fat = isA(FAT);
+            weighs = fat ? 2 * weight : weight;
+            joined = isA(JOINER) ? JOINED : 0;
+            leans = isA(STEADY) || isA(ELDER) ? 0 : lean;
+        }
 
         boolean isA(int what) {
             return what == PLAIN || what == kind || (what == JOINER && kind == ELDER);
         }
 
-        int weighs() {
-            return isA(FAT) ? 2 * weight : weight;
-        }
-
-        /** What the chair can bear beyond its strength. */
-        int joined() {
-            return isA(JOINER) ? JOINED : 0;
-        }
-
         int canBear() {
-            return strength + joined();
-        }
-
-        int leans() {
-            return isA(STEADY) || isA(ELDER) ? 0 : lean;
+            return strength + joined;
         }
 
         /** What the chair bears of all that is above it. */
         int loadUnder(int above) {
-            return isA(FAT) ? (above + 1) / 2 : above;
+            return fat ? (above + 1) / 2 : above;
         }
 
         int speak(int bill) {
@@ -644,9 +645,12 @@ public final class TopSpeaks {
         }
 
         boolean canRise(int tower, int number) {
+            if (!has(number)) {
+                return false;
+            }
             int standing = Row.members(tower);
             boolean stands = (standing >>> number & 1) == 1;
-            return has(number) && !stands && (repliesOf(number) & ~standing) == 0;
+            return !stands && (repliesOf(number) & ~standing) == 0;
         }
 
         /** The tower with one more on top; empty, if it falls then. */
@@ -656,14 +660,26 @@ public final class TopSpeaks {
         }
 
         boolean holds(int tower) {
-            return !leansTooMuch(tower) && nailsFor(tower) == 0;
+            int leans = 0;
+            int above = 0;
+            int rest = tower;
+            for (int i = 0; i < SEATS && rest != Row.EMPTY; i++) {
+                Member one = who(Row.top(rest));
+                if (one.loadUnder(above) > one.canBear()) {
+                    return false;
+                }
+                leans += one.leans;
+                above += one.weighs + 1;
+                rest = Row.belowTop(rest);
+            }
+            return Math.abs(leans) <= limit;
         }
 
         boolean leansTooMuch(int tower) {
             int leans = 0;
             int rest = tower;
             for (int i = 0; i < SEATS && rest != Row.EMPTY; i++) {
-                leans += who(Row.top(rest)).leans();
+                leans += who(Row.top(rest)).leans;
                 rest = Row.belowTop(rest);
             }
             return Math.abs(leans) > limit;
@@ -678,7 +694,7 @@ public final class TopSpeaks {
                 Member one = who(Row.top(rest));
                 int tooMuch = one.loadUnder(above) - one.canBear();
                 nails += tooMuch > 0 ? (tooMuch + NAIL - 1) / NAIL : 0;
-                above += one.weighs() + 1;
+                above += one.weighs + 1;
                 rest = Row.belowTop(rest);
             }
             return nails;
@@ -693,7 +709,7 @@ public final class TopSpeaks {
                 if (Row.top(rest) == number) {
                     return one.loadUnder(above);
                 }
-                above += one.weighs() + 1;
+                above += one.weighs + 1;
                 rest = Row.belowTop(rest);
             }
             return 0;
@@ -719,7 +735,7 @@ public final class TopSpeaks {
                 int number = Row.memberAt(tower, i + 1);
                 Member one = who(number);
                 insert(strengths, i, one.strength);
-                insert(needs, i, loadOn(tower, number) - one.joined());
+                insert(needs, i, loadOn(tower, number) - one.joined);
             }
             int least = strengths[0] - needs[0];
             for (int i = 1; i < high && i < SEATS; i++) {

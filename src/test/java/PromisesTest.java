@@ -28,6 +28,7 @@ public final class PromisesTest {
         may();
         rise();
         riseAndLean();
+        riseOfSeven();
         down();
         at();
         bill();
@@ -449,6 +450,40 @@ public final class PromisesTest {
         Checks.ruled(x, "65;2");
         c.due("it stands till somebody rises", x.count(1), 3);
         c.due("then it falls", x.rise(3), 0);
+    }
+
+    /** How high seven come who weigh 1 each, the lowest with a chair of his own and the leans told. */
+    private static int sevenHigh(int lowestChair, int lowestLean, int topLean) {
+        TopSpeaks x = new TopSpeaks();
+        x.member(PLAIN, 1, lowestLean, 0, lowestChair);
+        for (int i = 1; i < 7; i++) {
+            x.member(PLAIN, 1, i == 6 ? topLean : 0, 0, 99);
+        }
+        int high = 0;
+        for (int i = 0; i < 7; i++) {
+            high = x.rise(i);
+        }
+        if (high == 7) {
+            c.due("the lowest chair bears", x.about(0, 11), 12);
+            c.due("the lowest may not rise", x.may(0), 0);
+            c.due("the lowest is who stands at 1", x.at(1), 0);
+            c.due("image", x.image(), 7);
+            x.down();
+            x.chair(6, 1);
+            c.due("restore", x.restore(), 7);
+            c.due("the last one's chair is back", x.about(6, 4), 99);
+        }
+        return high;
+    }
+
+    private static void riseOfSeven() {
+        c.part("13 rise, seven high");
+        c.due("seven", sevenHigh(12, 0, 0), 7);
+        c.due("too much by one", sevenHigh(11, 0, 0), 0);
+        c.due("leans at the limit", sevenHigh(12, 3, 0), 7);
+        c.due("leans above it", sevenHigh(12, 3, 1), 0);
+        c.due("leans below it", sevenHigh(12, -3, -1), 0);
+        c.due("leans even out", sevenHigh(12, -3, 3), 7);
     }
 
     private static void down() {
