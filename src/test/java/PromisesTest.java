@@ -542,6 +542,13 @@ public final class PromisesTest {
         x.rise(1);
         x.rise(0);
         c.due("from below", x.bill(), 4);
+        TopSpeaks y = easy(7);
+        y.speech(0, 1, 8);
+        y.speech(6, 3, 3);
+        for (int one = 0; one < 7; one++) {
+            y.rise(one);
+        }
+        c.due("of seven", y.bill(), 24);
     }
 
     private static void debate() {
@@ -630,6 +637,27 @@ public final class PromisesTest {
         Checks.ruled(x, "02;0");
         nailsAre(x, "2", NONE);
         debateRefusals(x, x::nails);
+        int[] chairs = {19, 18, 17, 11, 10, 9, 2, 1, 0};
+        int[] fewest = {0, 0, 0, 0, 0, 1, 1, 1, 2};
+        for (int i = 0; i < chairs.length; i++) {
+            TopSpeaks y = new TopSpeaks();
+            y.member(PLAIN, 1, 0, 0, chairs[i]);
+            y.member(PLAIN, 9, 0, 0, 0);
+            nailsAre(y, "01", fewest[i]);
+        }
+        nailsAre(seven(11, 0), "0123456", 1);
+        nailsAre(seven(12, 3), "0123456", 0);
+        nailsAre(seven(12, 4), "0123456", NONE);
+    }
+
+    /** Seven who weigh 1 each, the lowest with this chair; they lean so much in all, if it is above 2. */
+    private static TopSpeaks seven(int lowestChair, int leans) {
+        TopSpeaks x = new TopSpeaks();
+        x.member(PLAIN, 1, leans > 2 ? 3 : 0, 0, lowestChair);
+        for (int i = 1; i < 7; i++) {
+            x.member(PLAIN, 1, i == 6 ? Math.max(0, leans - 3) : 0, 0, 99);
+        }
+        return x;
     }
 
     private static void shookBy(TopSpeaks x, String text, int want) {
