@@ -155,6 +155,13 @@ public final class DebatesEdgesTest extends Edges {
         debateIs(x, "0123456", 0, 9);
     }
 
+    static void p17_debate_theLeansOfAllSevenCount() {
+        debateIs(sevenLeaning(3, 0), "0123456", 0, 0);
+        debateIs(sevenLeaning(3, 1), "0123456", 7, 0);
+        debateIs(sevenLeaning(-3, -1), "0123456", 7, 0);
+        debateIs(sevenLeaning(-3, 3), "0123456", 0, 0);
+    }
+
     static void p17_debate_thosePassedOverCount() {
         TopSpeaks x = house(one(PLAIN, 1, 0, 0), one(PLAIN, 1, 0, 0), one(PLAIN, 1, 0, 0));
         debateIs(x, "02", 2, 0);
@@ -353,6 +360,23 @@ public final class DebatesEdgesTest extends Edges {
         nailsAre(x, "2", 0);
     }
 
+    /** Seven who lean so much in all, the first and the last of the row told. */
+    private static TopSpeaks sevenLeaning(int first, int last) {
+        TopSpeaks x = new TopSpeaks();
+        for (int one = 0; one < 7; one++) {
+            x.member(PLAIN, 1, one == 0 ? first : one == 6 ? last : 0, 0, 99);
+        }
+        return x;
+    }
+
+    static void p18_nails_theLeansOfAllSevenCount() {
+        nailsAre(sevenLeaning(3, 0), "0123456", 0);
+        nailsAre(sevenLeaning(3, 1), "0123456", NONE);
+        nailsAre(sevenLeaning(1, 3), "0123456", NONE);
+        nailsAre(sevenLeaning(-3, -1), "0123456", NONE);
+        nailsAre(sevenLeaning(-3, 3), "0123456", 0);
+    }
+
     static void p18_nails_allOnOneAnotherWhoeverTheyWouldReplyTo() {
         TopSpeaks x = house(one(PLAIN, 1, 0, 0), one(PLAIN, 1, 0, 0));
         ruled(x, "01,10");
@@ -454,6 +478,13 @@ public final class DebatesEdgesTest extends Edges {
         x.chair(0, 99);
         x.chair(5, 1);
         shookBy(x, "0123456", 32 + 64);
+    }
+
+    static void p19_shook_theLeansOfAllSevenCount() {
+        shookBy(sevenLeaning(3, 0), "0123456", 0);
+        shookBy(sevenLeaning(3, 1), "0123456", 1 + 64);
+        shookBy(sevenLeaning(-3, -1), "0123456", 1 + 64);
+        shookBy(sevenLeaning(-3, 3), "0123456", 0);
     }
 
     static void p19_shook_bitsAreMembersNotPlaces() {

@@ -39,7 +39,7 @@ abstract class Edges {
             due("has tests of its boundaries", ran[promise] > 0 ? 1 : 0, 1);
         }
         System.out.println(all + " tests of boundaries");
-        c.end();
+        end();
     }
 
     static void due(String call, long got, long want) {
@@ -58,8 +58,16 @@ abstract class Edges {
 
     /** The call is not refused. */
     static void taken(String call, long got) {
-        boolean isRefusal = got <= UNKNOWN && got >= FULL || got == -100102 || got == -100103;
-        due(call + " is taken (0), refused (1)", isRefusal ? 1 : 0, 0);
+        due(call + " is taken (0), refused (1)", isRefusal(got) ? 1 : 0, 0);
+    }
+
+    static boolean isRefusal(long got) {
+        return got <= UNKNOWN && got >= FULL || got == -100102 || got == -100103;
+    }
+
+    /** Prints how it went; ends with exit code 1, if an answer was wrong. */
+    static void end() {
+        c.end();
     }
 
     static int[] counts(TopSpeaks x) {

@@ -34,6 +34,10 @@ public final class FaceTest {
         c.due("the constructor", face.getDeclaredConstructor().getModifiers(), Modifier.PUBLIC);
         TreeSet<String> names = new TreeSet<>();
         METHODS.forEach(m -> names.add(m.substring(m.indexOf(' ') + 1, m.indexOf('('))));
+        for (Method method : face.getDeclaredMethods()) {
+            boolean borrowed = Modifier.isPrivate(method.getModifiers()) && names.contains(method.getName());
+            c.due("a private " + method.getName(), borrowed ? 1 : 0, 0);
+        }
         statics(face);
         c.due("few fields", fields(face) <= 20 ? 1 : 0, 1);
         for (Class<?> inside : face.getDeclaredClasses()) {

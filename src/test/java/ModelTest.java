@@ -9,8 +9,9 @@ import java.util.regex.Pattern;
  * lists, texts by regular expressions, all permutations instead of short cuts.
  */
 public final class ModelTest {
-    private static final int RUNS = 3000;
-    private static final int CALLS = 300;
+    private static final int RUNS = 4000;
+    // some of these make several calls; an object is good for 512
+    private static final int CALLS = 220;
 
     private static final Checks c = new Checks();
     private static long seed = 42;

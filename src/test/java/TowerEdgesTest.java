@@ -433,6 +433,20 @@ public final class TowerEdgesTest extends Edges {
         refused(x, "at(8)", () -> x.at(8), UNKNOWN);
     }
 
+    static void p15_at_noHeightFarOffComesRoundAgain() {
+        TopSpeaks x = easy(7);
+        allRise(x, 6, 4, 2, 0, 5, 3, 1);
+        for (int height = -70; height <= 70; height++) {
+            if (height < 1 || height > 7) {
+                due("at(" + height + ")", x.at(height), UNKNOWN);
+            }
+        }
+        for (int bit = 3; bit < 32; bit++) {
+            due("at(1 << " + bit + ")", x.at(1 << bit), UNKNOWN);
+            due("at(1 + (1 << " + bit + "))", x.at(1 + (1 << bit)), UNKNOWN);
+        }
+    }
+
     // ---- 16 bill
 
     /** The bill of a tower whose members say, from below, a sort and a number each. */

@@ -86,6 +86,19 @@ public final class WouldBeEdgesTest extends Edges {
         due("order(10, 6)", x.order(10, 6), NONE);
     }
 
+    static void p20_order_noneBehindTheRowOnAHighTower() {
+        TopSpeaks x = easy(7);
+        allRise(x, 5, 4, 3, 2, 1, 0);
+        due("order(64, 0)", x.order(64, 0), 6);
+        for (int place = 1; place <= 6; place++) {
+            due("order(64, " + place + ")", x.order(64, place), NONE);
+        }
+        x.rise(6);
+        for (int place = 0; place <= 6; place++) {
+            due("order(0, " + place + ") on seven", x.order(0, place), NONE);
+        }
+    }
+
     static void p20_order_theFirstByNumbers() {
         orderIs(easy(4), 15, 0, 1, 2, 3);
     }
